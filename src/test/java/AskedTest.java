@@ -151,6 +151,8 @@ final class AskedTest {
         c.due("40: GONE by till", x.all(5), 1);
         x.day(60);
         c.due("40: GONE by till and act", x.all(5), 2);
+        x.act(1, 10, 10, 0);
+        c.due("40: the first GONE, too", x.all(5), 3);
         c.due("40: a text with a fault", x.deeds(), -1000104);
         c.due("40: no bytes", x.all(8), 0);
     }

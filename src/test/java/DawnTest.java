@@ -20,9 +20,16 @@ final class DawnTest {
                 x.dawn(1, 10000, 0), x.dawn(1, 0, -1), x.dawn(1, 0, 12), x.dawn(1 | 1 << 11, 0, 0),
                 x.dawn(1, 0, Checks.BAD), x.dawn(0, 0, Checks.NONE));
         c.due("34: eight are fine", x.dawn(255, 0, Checks.NONE), 1);
+        c.due("34: the first alone", x.dawn(1, 0, Checks.NONE), 1);
+        c.due("34: the first alone, its hour", x.dawn(1, 0, 0), 0);
+        c.due("34: the last alone", x.dawn(1 << 9, 0, 9), 0);
         c.due("34: other eight", x.dawn(1020, 9999, 2), 0);
         c.due("34: not of the set", x.dawn(1020, 0, 1), Checks.NONE);
         c.due("34: not even there", x.dawn(1020, 0, 11), Checks.NONE);
+        Checks.deeds(x, "mass altar 3 priest 3;mass altar 1 priest 1;");
+        c.due("34: of twelve", x.dawn(0xFF0, 0, Checks.NONE), 3);
+        c.due("34: the twelfth", x.dawn(0xFF0, 0, 11), 0);
+        c.due("34: no thirteenth", x.dawn(1 << 12, 0, 0), Checks.BAD);
     }
 
     private static void row(String what, ChantryRolls x, int set, int day, int howMany, int... hours) {

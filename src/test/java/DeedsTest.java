@@ -8,6 +8,7 @@ final class DeedsTest {
         bounds();
         faults();
         tooMany();
+        fullTape();
         feast();
         wanted();
         wantedAtTheEnd();
@@ -108,6 +109,14 @@ final class DeedsTest {
         fault("massa soul 1;", 0, 1);
         fault("mas soul 1;", 0, 1);
         fault("Mass soul 1;", 0, 1);
+        fault("bass soul 1;", 0, 1);
+        fault("massz soul 1;", 0, 1);
+        fault("massa;", 0, 1);
+        fault("mass poul 1;", 5, 1);
+        fault("mass soul 1:", 11, 1);
+        fault("mass soul 1/2;", 11, 1);
+        fault("mass`soul 1;", 4, 1);
+        fault("mass{soul 1;", 4, 1);
         fault("mass souls 1;", 5, 1);
         fault("mass sou 1;", 5, 1);
         fault("mass soul -1;", 10, 1);
@@ -150,6 +159,20 @@ final class DeedsTest {
         c.due("9: no thirteenth", x.told(12, 1), Checks.BAD);
     }
 
+    private static void fullTape() {
+        fault("m".repeat(500), 0, 1);
+        fault("5".repeat(500), 0, 1);
+        fault(";".repeat(500), 0, 1);
+        fault("mass soul " + "5".repeat(490), 10, 1);
+        fault(" ".repeat(496) + "mass", 500, 1);
+        fault(" ".repeat(490) + "mass soul5", 500, 1);
+        ChantryRolls x = new ChantryRolls();
+        c.due("7: 500 bytes", Checks.deeds(x, "mass " + "soul 1 ".repeat(70) + "till;"), -1000599);
+        c.due("7: 500 bytes, read", Checks.deeds(x, "mass " + "soul 1 ".repeat(69) + "altar 2 ; "
+                + "\n"), 1);
+        c.due("9: the last of them", x.told(0, 2), 2);
+    }
+
     private static void feast() {
         ChantryRolls x = new ChantryRolls();
         c.allDue("10: BAD", Checks.BAD, x.feast(-1, 1), x.feast(10000, 1), x.feast(0, 0), x.feast(0, 3),
@@ -188,6 +211,13 @@ final class DeedsTest {
         x.feast(13, 1);
         wants(x, 1, 11, 2, 12, 2, 13, 2, 14, 5, 15, 6, 20, 10, 21, 10);
         c.due("11: not wanted, not moved", x.count(0, 14, 0), 1);
+        ChantryRolls y = Checks.with("mass each 10;");
+        y.feast(0, 2);
+        wants(y, 0, 0, 0, 9, 0, 10, 1);
+        y.feast(30, 2);
+        y.feast(20, 1);
+        y.feast(10, 1);
+        wants(y, 0, 10, 0, 11, 1, 20, 1, 21, 2, 30, 2, 31, 2, 40, 3);
     }
 
     /** Pairs of a day and what is wanted till it. */
@@ -208,5 +238,17 @@ final class DeedsTest {
         x.feast(0, 1);
         wants(x, 0, 0, 0, 1, 2, 2, 3);
         c.due("11: of an obit alike", x.count(2, 9999, 0), 9998);
+        ChantryRolls y = Checks.with("mass from 9960;");
+        for (int day = 9999; day > 9970; day--) {
+            y.feast(day, 1);
+        }
+        wants(y, 0, 9970, 11, 9971, 11, 9999, 11);
+        y.feast(9960, 1);
+        wants(y, 0, 9960, 0, 9961, 2, 9999, 11);
+        ChantryRolls z = Checks.with("mass from 100 till 100;");
+        for (int day = 100; day < 130; day++) {
+            z.feast(day, 1);
+        }
+        wants(z, 0, 129, 0, 130, 1);
     }
 }

@@ -63,6 +63,9 @@ final class HousesTest {
             c.due("20: so many", x.repair(0, 0, i), i);
         }
         c.due("20: FULL", x.repair(0, 0, 1), Checks.FULL);
+        c.due("22: with 20 of them", x.rent(1, 3), 699);
+        x.house(0, 0, 10000);
+        c.due("22: with 17 in one year", x.rent(0, 0), 10000 - 204);
         c.due("20: BAD ahead of FULL", x.repair(0, 0, 0), Checks.BAD);
     }
 
@@ -200,6 +203,12 @@ final class HousesTest {
         c.due("26: year 27", x.spent(27), 70);
         x.act(0, 0, 99, 0);
         c.due("26: what is taken is wanted still", x.spent(27), 70);
+        Checks.deeds(x, "obit bread 9; obit bread 9; obit bread 9");
+        c.due("26: a text with a fault leaves nothing", x.spent(27), 70);
+        for (int i = 3; i < 12; i++) {
+            Checks.deeds(x, "obit bread 1;");
+        }
+        c.due("26: of twelve", x.spent(27), 70 + 9 * 7);
     }
 
     private static void spentWhereMoved() {

@@ -70,6 +70,7 @@ final class LinesTest {
         c.due("14: BAD ahead of FULL", x.say(0, 100, 5), Checks.BAD);
         c.due("14: all(3)", x.all(3), 60);
         c.due("14: all(4)", x.all(4), 55);
+        c.due("11: said, of 60", x.count(0, 9999, 1), 55);
         c.allDue("16: BAD", Checks.BAD, x.good(-1), x.good(60), x.good(Integer.MAX_VALUE), x.good(Integer.MIN_VALUE));
         c.due("16: the last", x.good(59), 1);
         c.due("16: not begun", x.good(4), 0);

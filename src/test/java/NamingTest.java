@@ -49,6 +49,11 @@ final class NamingTest {
             c.due("28: on day " + turn[0], x.turn(0, turn[0]), turn[1]);
         }
         c.due("28: another promise", x.turn(1, 60), Checks.NONE);
+        x.vacant(1, 0, 3, 1, 2);
+        c.due("28: two of the four", x.turn(1, 10), 6);
+        c.due("28: then the bishop, not the third", x.turn(1, 11), 10);
+        x.vacant(1, 0, 3, 1, 1);
+        c.due("28: one of the four", x.turn(1, 1), 10);
         x.set(3, 1, 8);
         x.drop(3);
         c.due("28: the sheet is needed no more", x.turn(0, 50), 5);
@@ -119,6 +124,19 @@ final class NamingTest {
         y.act(400, 0, 0, 0);
         c.due("31: of what comes to both", y.pension(1, 400), 40);
         c.due("31: the other is not taken", y.pension(2, 400), 0);
+        ChantryRolls z = Checks.with("mass pays 10; mass priest 7 pays 20;");
+        z.house(0, 0, 100);
+        z.act(0, 0, 99, 0);
+        Checks.deeds(z, "mass pays 90; mass pays 90");
+        c.due("31: priest 0, a text with a fault left out", z.pension(0, 0), 5);
+        c.due("31: priest 7", z.pension(7, 0), 10);
+        for (int i = 2; i < 12; i++) {
+            Checks.deeds(z, "mass priest 7 pays 2;");
+        }
+        c.due("31: of twelve", z.pension(7, 9999), 20);
+        c.due("40: twelve are GONE", z.all(5), 12);
+        z.bid(0, 1, 1);
+        c.due("33: twelve are taken", z.sold(0, 0), 1);
     }
 
     private static void bid() {
@@ -131,6 +149,17 @@ final class NamingTest {
         c.due("32: FULL", x.bid(0, 0, 1), Checks.FULL);
         c.due("32: BAD ahead of FULL", x.bid(0, 0, 0), Checks.BAD);
         c.due("32: all(7)", x.all(7), 20);
+        Checks.deeds(x, "mass house 5; mass soul 1;");
+        Checks.deeds(x, "mass house 5 soul 1; mass");
+        x.act(0, 0, 0, 0);
+        c.due("33: of 20 bids", x.sold(5, 0), 7);
+        c.due("33: not taken", x.sold(0, 0), Checks.NONE);
+        ChantryRolls y = Checks.with("mass soul 1; mass house 1;");
+        y.act(0, 1, 1, 0);
+        y.bid(0, 9, 7);
+        y.bid(0, 8, 6);
+        c.due("33: the first promise, the first bid", y.sold(0, 0), 9);
+        c.due("33: the second is not taken", y.sold(1, 0), Checks.NONE);
     }
 
     private static void sold() {
