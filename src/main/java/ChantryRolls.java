@@ -290,7 +290,7 @@ public final class ChantryRolls {
         if (noHouse(house) || noSpan(from, to)) {
             return BAD;
         }
-        return houses.empties.full() ? FULL : houses.empties.add(house, from, to);
+        return houses.emptiesFull() ? FULL : houses.addEmpty(house, from, to);
     }
 
     public int rent(int house, int year) {
@@ -1368,6 +1368,14 @@ public final class ChantryRolls {
             repairSums[repairs] = sum;
             repairs++;
             return repairs;
+        }
+
+        boolean emptiesFull() {
+            return empties.full();
+        }
+
+        int addEmpty(int house, int first, int last) {
+            return empties.add(house, first, last);
         }
 
         int rentIn(int house, int year) {

@@ -110,6 +110,11 @@ final class HousesTest {
             c.due("22: another house", x.rent(1, 0), 360);
         }
         c.due("22: year 1", x.rent(0, 1), 319);
+        x.empty(1, 0, 358);
+        c.due("22: all but the last day of the year", x.rent(1, 0), 1);
+        x.empty(1, 359, 359);
+        c.due("22: the last day, too", x.rent(1, 0), 0);
+        c.due("22: but not the next one", x.rent(1, 1), 360);
     }
 
     private static void comes() {
