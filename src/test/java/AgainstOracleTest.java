@@ -8,7 +8,7 @@ import java.util.Random;
 /** Runs of calls, the same on ChantryRolls and on Oracle: every answer must be alike, and none may throw. */
 final class AgainstOracleTest {
     private static final Checks c = new Checks("AgainstOracleTest");
-    private static final int RUNS = 240;
+    private static final int RUNS = 480;
     private static final int CALLS = 512;
     private static final int MOST_SHOWN = 20;
 
@@ -19,6 +19,15 @@ final class AgainstOracleTest {
         "repair u y v 2", "empty u d d 2", "rent u y 4", "comes p y b 6", "fails p 3", "price w v 2", "spent y 3",
         "vacant p d s i f 3", "turn p d 4", "act d k k b 1", "taken p 2", "pension e d 3", "bid u k v 2", "sold u d 3",
         "dawn m d q 3", "day d 3", "kind p 3", "as p f 3", "ask p b 5", "trace j 5", "all x 5", "status 4"};
+
+    /** Those that fill what there is room for; behind a blank how often each is drawn in a run that fills. */
+    private static final String[] FILLING = {"feast d r 4", "sick e d d 3", "say p d h 6", "lines s i t 1", "join p p d 4",
+        "split p d 4", "repair u y v 3", "empty u d d 3", "act d k k b 1", "bid u k v 3", "vacant p d s i f 2"};
+
+    /** In place of a last day: days are drawn from those next to the ends of years, and to the first and last day. */
+    private static final int EDGES = -1;
+    private static final int[] EDGE_DAYS = {0, 1, 2, 358, 359, 360, 361, 719, 720, 721, 9719, 9720, 9721, 9997, 9998,
+        9999, 9999, 0, -1, 10000};
 
     private static int shown = 0;
 
@@ -51,7 +60,8 @@ final class AgainstOracleTest {
         ChantryRolls x = new ChantryRolls();
         Oracle y = new Oracle();
         // Narrow runs keep days and sheets few, so that calls meet; wide ones go to the edges.
-        int lastDay = new int[] {12, 60, 800, 9999}[run % 4];
+        int lastDay = new int[] {12, 60, 800, 9999, EDGES}[run % 5];
+        boolean filling = run % 3 == 0;
         for (int call = 0; call < CALLS; call++) {
             if (call < 3 || random.nextInt(60) == 0) {
                 String text = text(random, lastDay);
@@ -70,7 +80,7 @@ final class AgainstOracleTest {
                 same(run, call, "deeds of " + text, x.deeds(), y.deeds());
                 same(run, call, "fault of " + text, x.fault(), y.fault());
             }
-            String[] told = draw(random).split(" ");
+            String[] told = draw(random, filling && random.nextBoolean() ? FILLING : CALLS_TOLD).split(" ");
             Object[] given = new Object[told.length - 2];
             for (int i = 0; i < given.length; i++) {
                 given[i] = number(random, told[i + 1].charAt(0), lastDay);
@@ -98,19 +108,28 @@ final class AgainstOracleTest {
         }
     }
 
-    private static String draw(Random random) {
+    private static String draw(Random random, String[] calls) {
         int sum = 0;
-        for (String told : CALLS_TOLD) {
+        for (String told : calls) {
             sum += Integer.parseInt(told.substring(told.lastIndexOf(' ') + 1));
         }
         int at = random.nextInt(sum);
-        for (String told : CALLS_TOLD) {
+        for (String told : calls) {
             at -= Integer.parseInt(told.substring(told.lastIndexOf(' ') + 1));
             if (at < 0) {
                 return told;
             }
         }
-        return CALLS_TOLD[0];
+        return calls[0];
+    }
+
+    private static int day(Random random, int lastDay) {
+        return lastDay == EDGES ? EDGE_DAYS[random.nextInt(EDGE_DAYS.length)] : random.nextInt(lastDay + 1);
+    }
+
+    private static int year(Random random, int lastDay) {
+        int[] edges = {0, 1, 2, 26, 27};
+        return lastDay == EDGES ? edges[random.nextInt(edges.length)] : random.nextInt(lastDay / 360 + 2);
     }
 
     /** A span is drawn the right way round nine times of ten; an act's souls are the second and the third. */
@@ -146,7 +165,7 @@ final class AgainstOracleTest {
             case 'r':
                 return random.nextInt(9) == 0 ? random.nextInt(4) : 1 + random.nextInt(2);
             case 'd':
-                return random.nextInt(lastDay + 1);
+                return day(random, lastDay);
             case 'w':
                 return random.nextInt(random.nextInt(9) == 0 ? 4 : 3);
             case 'e':
@@ -164,7 +183,7 @@ final class AgainstOracleTest {
             case 'b':
                 return random.nextInt(random.nextInt(9) == 0 ? 3 : 2);
             case 'y':
-                return random.nextInt(random.nextInt(9) == 0 ? 29 : lastDay / 360 + 2);
+                return random.nextInt(9) == 0 ? random.nextInt(29) : year(random, lastDay);
             case 'f':
                 return random.nextInt(6);
             case 'k':
@@ -183,14 +202,19 @@ final class AgainstOracleTest {
     }
 
     private static int value(Random random, int lastDay) {
-        int[] most = {3, 10, 100, 400, 10001, 100001, lastDay + 1};
-        return random.nextInt(20) == 0 ? random.nextInt() : random.nextInt(most[random.nextInt(most.length)]);
+        int[] most = {3, 10, 100, 400, 10001, 100001};
+        if (random.nextInt(20) == 0) {
+            return random.nextInt();
+        }
+        int at = random.nextInt(most.length + 1);
+        return at == most.length ? day(random, lastDay) : random.nextInt(most[at]);
     }
 
     /** Mostly a text that can be read, at times with one byte, or one number, that is off. */
     private static String text(Random random, int lastDay) {
         String[] words = {"soul", "altar", "priest", "each", "from", "till", "house", "pays", "bread", "candle"};
-        int[] most = {12, 4, 4, Math.min(360, lastDay), lastDay, lastDay + 1, 3, 101, 5, 5};
+        int longest = lastDay == EDGES ? 360 : Math.min(360, lastDay);
+        int[] most = {12, 4, 4, longest, 1, 1, 3, 101, 5, 5};
         StringBuilder text = new StringBuilder();
         for (int deeds = 1 + random.nextInt(4); deeds > 0; deeds--) {
             text.append(random.nextInt(3) == 0 ? "obit" : "mass");
@@ -198,6 +222,7 @@ final class AgainstOracleTest {
                 int term = random.nextInt(words.length);
                 int v = random.nextInt(40) == 0 ? random.nextInt(100001) : random.nextInt(most[term]);
                 v = term == 3 && random.nextInt(20) != 0 ? v + 1 : v;
+                v = term == 4 || term == 5 ? Math.max(0, day(random, lastDay)) : v;
                 text.append(random.nextInt(8) == 0 ? "\n " : " ").append(words[term]);
                 text.append(random.nextInt(8) == 0 ? "" : " ").append(v);
             }

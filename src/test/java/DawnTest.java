@@ -8,6 +8,7 @@ final class DawnTest {
         leastRow();
         vowsAndSickness();
         whoGivesWay();
+        hoursTakenBack();
         againstEveryRow();
         c.finish();
     }
@@ -77,11 +78,27 @@ final class DawnTest {
         row("then the least row", x, 127, 0, 6, 0, 1, 2, 3, 4, none, 1);
     }
 
+    /**
+     * Altar 0 has five, so all its hours are needed; at 0 only priest 2 can be there, for the others are at other
+     * altars then. So 4 cannot have hour 0, which would be free for it; that is seen at the last promise alone.
+     */
+    private static void hoursTakenBack() {
+        ChantryRolls x = Checks.with("mass altar 2 priest 0; mass altar 1 priest 1; mass altar 0 priest 1;"
+                + "mass altar 0 priest 0; mass altar 3 priest 2; mass altar 0 priest 2; mass altar 0 priest 0;"
+                + "mass altar 0 priest 2;");
+        for (int priest = 0; priest < 3; priest++) {
+            x.vow(priest, 3);
+        }
+        row("an hour is taken back", x, 255, 0, 8, 0, 0, 1, 2, 1, 0, 3, 4);
+    }
+
+    /** In every third run all vows are 3 and priests are few, so that hours have to be taken back. */
     private static void againstEveryRow() {
         java.util.Random random = new java.util.Random(34);
-        for (int run = 0; run < 150; run++) {
+        for (int run = 0; run < 240; run++) {
+            boolean close = run % 3 == 0;
             int altars = 1 + random.nextInt(4);
-            int priests = 1 + random.nextInt(8);
+            int priests = close ? 3 : 1 + random.nextInt(8);
             int[] altar = new int[8];
             int[] priest = new int[8];
             int[] vow = new int[8];
@@ -91,9 +108,9 @@ final class DawnTest {
                 altar[i] = random.nextInt(altars);
                 priest[i] = random.nextInt(priests);
                 Checks.deeds(x, "mass altar " + altar[i] + " priest " + priest[i] + ";");
-                vow[i] = 1 + random.nextInt(3);
+                vow[i] = close ? 3 : 1 + random.nextInt(3);
                 x.vow(i, vow[i]);
-                sick[i] = random.nextInt(6) == 0;
+                sick[i] = !close && random.nextInt(6) == 0;
                 if (sick[i]) {
                     x.sick(i, 100, 100);
                 }
