@@ -44,7 +44,7 @@ final class Calls {
         }
     }
 
-    private static long number(String word) {
+    static long number(String word) {
         switch (word) {
             case "NONE":
                 return Checks.NONE;
@@ -53,7 +53,7 @@ final class Calls {
             case "MAX":
                 return Integer.MAX_VALUE;
             default:
-                return Long.parseLong(word);
+                return Long.decode(word.endsWith("L") ? word.substring(0, word.length() - 1) : word);
         }
     }
 }
