@@ -128,7 +128,8 @@ final class PromisesTest {
         r.says("7: -1000100 less the place of a FAULT: none comes.").run(
                 "read mass soul 1; mass soul 100; = -1000123", "all(1) = 0", "all(8) = 0", "deeds() = 0",
                 "read mass soul 4; = 1", "read obit soul 5; mass soul 6 = -1000124", "all(1) = 1", "told(0, 1) = 4",
-                "told(1, 1) = BAD");
+                "told(1, 1) = BAD", "read mass altar 3 till 9; mass; = -1000125", "read mass soul 7; = 2",
+                "told(1, 2) = 0", "told(1, 6) = 9999");
     }
 
     private static void fault() {
@@ -174,9 +175,9 @@ final class PromisesTest {
 
     private static void sick() {
         r.says("13: SICK: how many such there are. BAD; FULL: 20.").run(
-                "sick(0, 0, 9999) = 1", "sick(7, 5, 5) = 2", "sick(8, 5, 5) = BAD", "sick(0, 6, 5) = BAD",
-                "sick(0, -1, 5) = BAD", "sick(0, 5, 10000) = BAD", "18 x sick(1, 5, 6) = 20", "sick(1, 5, 6) = FULL",
-                "sick(1, 6, 5) = BAD");
+                "sick(0, 0, 9999) = 1", "sick(7, 5, 5) = 2", "sick(8, 5, 5) = BAD", "sick(-1, 5, 5) = BAD",
+                "sick(0, 6, 5) = BAD", "sick(0, -1, 5) = BAD", "sick(0, 5, 10000) = BAD", "18 x sick(1, 5, 6) = 20",
+                "sick(1, 5, 6) = FULL", "sick(1, 6, 5) = BAD");
     }
 
     private static void say() {
@@ -342,7 +343,8 @@ final class PromisesTest {
         r.says("31: PENSION of a PRIEST on a day. BAD.").run(
                 "read mass priest 2 pays 10 soul 3; = 1", "house(0, 0, 1010) = 0", "pension(2, 9999) = 0",
                 "act(400, 3, 3, 0) = 1", "pension(2, 399) = 0", "pension(2, 400) = 50", "pension(1, 400) = 0",
-                "pension(8, 5) = BAD", "pension(-1, 5) = BAD", "pension(2, 10000) = BAD", "pension(2, -1) = BAD");
+                "pension(0, 400) = 0", "pension(7, 400) = 0", "pension(8, 5) = BAD", "pension(-1, 5) = BAD",
+                "pension(2, 10000) = BAD", "pension(2, -1) = BAD");
     }
 
     private static void bidAndSold() {
@@ -415,7 +417,8 @@ final class PromisesTest {
                 "drop(5) = 1", "4 x feast(5, 1) = 4", "5 x say(0, 9, 2) = 4", "say(1, 8, 0) = 5",
                 "6 x act(7, 2, 99, 0) = 6", "7 x bid(1, 2, 3) = 7", "feed(0, 8) = 8", "all(0) = 1", "all(1) = 3",
                 "all(2) = 4", "all(3) = 6", "all(4) = 1", "all(5) = 0", "day(4) = 0", "all(5) = 1", "day(7) = 4",
-                "all(5) = 2", "all(6) = 6", "all(7) = 7", "all(8) = 8", "all(9) = BAD", "all(-1) = BAD");
+                "all(5) = 2", "act(7, 0, 99, 1) = 7", "all(5) = 3", "sheet(0, 0, 1) = 1", "sheet(7, 0, 1) = 1",
+                "all(0) = 3", "all(6) = 7", "all(7) = 7", "all(8) = 8", "all(9) = BAD", "all(-1) = BAD");
     }
 
     private static void status() {
